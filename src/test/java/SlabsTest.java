@@ -9,7 +9,9 @@ import java.util.TreeSet;
  * plane is cut upright at every vertex, and the cells between the cuts are joined through them.
  */
 public final class SlabsTest {
+    /** Nothing is promised after so many calls of one object. */
     private static final int CALLS = 512;
+    private static final int MOST_AT_ONCE = 5;
     private static int wrong = 0;
     private static int bounded = 0;
     private static int holed = 0;
@@ -465,7 +467,7 @@ public final class SlabsTest {
             if (number % 3 > 0) {
                 frame();
             }
-            while (calls < CALLS) {
+            while (calls + MOST_AT_ONCE <= CALLS) {
                 int kind = random.nextInt(100);
                 if (kind < 35) {
                     add();
@@ -477,6 +479,9 @@ public final class SlabsTest {
                 } else {
                     ask();
                 }
+            }
+            while (calls < CALLS) {
+                due("faces", atlas.faces(), model.faces());
             }
         }
 
